@@ -900,8 +900,8 @@ public final class GiftDuel {
         /** One loop without helpers: it stands at the end of the longest row of calls. */
         private int value(int from, int to, int[] words, int[] stack) {
             int top = 0;
-            int at = Math.max(from, 0);
-            int end = Math.min(to, size);
+            int at = from < 0 ? 0 : from;
+            int end = to > size ? size : to;
             while (at < end) {
                 int act = acts[at];
                 int arg = args[at];
@@ -918,7 +918,7 @@ public final class GiftDuel {
                     stack[top - 1] = 1 - stack[top - 1];
                 } else if (act == AND || act == OR) {
                     if ((stack[top - 1] == 1) == (act == OR)) {
-                        at = Math.max(at, arg);
+                        at = arg > at ? arg : at;
                     } else {
                         top--;
                     }
@@ -1889,11 +1889,17 @@ public final class GiftDuel {
                 return NONE;
             }
             int best = all;
+            int fewest = many;
+            int least = worthOf(all);
             for (int mask = 0; mask < all; mask++) {
-                int more = Integer.bitCount(mask) - Integer.bitCount(best);
-                boolean better = more < 0 || more == 0 && worthOf(mask) < worthOf(best);
-                if (better && falls(mask, years)) {
-                    best = mask;
+                int size = Integer.bitCount(mask);
+                if (size <= fewest) {
+                    int worth = worthOf(mask);
+                    if ((size < fewest || worth < least) && falls(mask, years)) {
+                        best = mask;
+                        fewest = size;
+                        least = worth;
+                    }
                 }
             }
             return best;

@@ -540,6 +540,29 @@ public final class PromisesTest {
         due("20: by orders", x.undo(), 0);
         due("20: by orders", x.undo(), 1);
         undoEnds();
+        undoBehindStopped();
+    }
+
+    /** ORDERS that can't be leave what can be undone as it was, even if they ran more than are kept. */
+    private static void undoBehindStopped() {
+        GiftDuel x = hall();
+        x.good(0, 10, 1);
+        for (int i = 0; i < 8; i++) {
+            x.await();
+            x.give(0, (i + 1) % 3);
+        }
+        int grain = x.of(0, 0);
+        due("20: stopped", Check.orders(x, "wait times 20; wait times 9; give 0 to 9"), -3);
+        due("20: sixteen still", x.count(6), 16);
+        due("20: grain still", x.of(0, 0), grain);
+        for (int i = 7; i >= 0; i--) {
+            due("20: gift behind stopped", x.undo(), 0);
+            due("20: holder then", x.at(0, 0), i % 3);
+            due("20: year then", x.count(14), i + 1);
+            due("20: year behind stopped", x.undo(), 1);
+            due("20: year then", x.count(14), i);
+        }
+        due("20: all", x.undo(), -3);
     }
 
     private static void undoEnds() {
@@ -750,6 +773,24 @@ public final class PromisesTest {
         due("25: ruined giver", x.siege(2, 1, 9, 0), -1);
         due("25: ruined other", x.siege(0, 2, 9, 0), -1);
         siegeOfMany();
+        siegeByYears();
+    }
+
+    /** Each YEAR has costs of its own, and they are those of the one who is given. */
+    private static void siegeByYears() {
+        GiftDuel x = hall();
+        x.good(0, 10, 0);
+        x.good(0, 20, 0);
+        x.put(1, 0, 30);
+        x.terms(0, 4);
+        Check.rule(x, "keeps 0; keeps 31 if year = 5 and good = 1 and to = 1; keeps 31 if year = 7 and good = 0 and to = 1");
+        due("25: this year's next", x.siege(0, 1, 1, 2), 2);
+        due("25: in two", x.siege(0, 1, 2, 2), 2);
+        due("25: in three", x.siege(0, 1, 3, 2), 1);
+        Check.rule(x, "keeps 31 if year = 4 and to = 1");
+        due("25: not this year", x.siege(0, 1, 9, 0), -1);
+        Check.rule(x, "keeps 31 if to = 0");
+        due("25: not what it costs the giver", x.siege(0, 1, 9, 0), -1);
     }
 
     private static void siegeOfMany() {
@@ -830,7 +871,10 @@ public final class PromisesTest {
         Check.rule(x, "worth 999 if good = 1");
         due("28: above 999 can't be told", x.bribe(0, 1, 0), -1);
         due("28: above 999 can't be told", x.bribe(0, 1, 1), -1);
-        due("28: alike are not more", x.bribe(1, 2, 0), 0);
+        due("28: more than 99 already", x.bribe(1, 2, 0), 0);
+        Check.rule(x, "worth 998 if good = 1; worth 998 if good = 2");
+        due("28: up to 999", x.bribe(0, 1, 0), 989 * 7);
+        due("28: alike are not more", x.bribe(1, 2, 0), 7);
     }
 
     private static void road() {
@@ -939,6 +983,39 @@ public final class PromisesTest {
         due("31: against 2 from 1", x.ring(2), 1);
         x.await();
         due("31: none stands", x.ring(-1), -1);
+        for (int lords = 3; lords <= 6; lords++) {
+            GiftDuel y = new GiftDuel();
+            for (int i = 0; i < lords; i++) {
+                y.lord(0, 0);
+                y.good(i, 1, 0);
+            }
+            for (int i = 0; i < lords; i++) {
+                due("31: not yet", y.ring(-1), -1);
+                y.give(i, (i + 1) % lords);
+            }
+            due("31: all", y.ring(-1), lords);
+            for (int i = 0; i < lords; i++) {
+                due("31: back round", y.ring(i), (lords - i) % lords);
+            }
+            due("31: behind all", y.ring(lords), -1);
+        }
+        ringByChallenges();
+    }
+
+    /** The row goes by challenges, not by numbers. */
+    private static void ringByChallenges() {
+        GiftDuel x = new GiftDuel();
+        for (int i = 0; i < 4; i++) {
+            x.lord(0, 0);
+            x.good(i, 1, 0);
+            x.good(i, 1, 0);
+        }
+        int[][] against = {{0, 2}, {2, 1}, {1, 3}, {3, 0}};
+        for (int[] pair : against) {
+            x.give(2 * pair[1], pair[0]);
+        }
+        due("31: four", x.ring(-1), 4);
+        due("31: its row", x.ring(0) * 1000 + x.ring(1) * 100 + x.ring(2) * 10 + x.ring(3), 213);
     }
 
     private static void shelf() {

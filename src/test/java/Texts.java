@@ -124,7 +124,16 @@ final class Texts {
         while (n(6) == 0) {
             put("not");
         }
-        if (n(depth > 1 ? 12 : 5) == 0) {
+        if (n(40) == 0 && depth < 3) {
+            int deep = 1 + n(9);
+            for (int i = 0; i < deep; i++) {
+                put("(");
+            }
+            test(deep);
+            for (int i = 0; i < deep; i++) {
+                put(")");
+            }
+        } else if (n(depth > 1 ? 12 : 5) == 0) {
             put("(");
             test(depth + 1);
             put(")");
@@ -137,6 +146,10 @@ final class Texts {
 
     private void sum(int depth) {
         term(depth);
+        for (int more = n(60) == 0 ? 30 + n(25) : 0; more > 0; more--) {
+            put(n(2) == 0 ? "+" : "-");
+            part(9);
+        }
         while (n(4) == 0) {
             put(n(2) == 0 ? "+" : "-");
             term(depth);
@@ -153,7 +166,16 @@ final class Texts {
 
     private void part(int depth) {
         int kind = n(10);
-        if (kind == 0 && n(depth + 1) < 2) {
+        if (kind == 0 && n(30) == 0) {
+            int deep = 1 + n(9);
+            for (int i = 0; i < deep; i++) {
+                put("[");
+            }
+            sum(deep);
+            for (int i = 0; i < deep; i++) {
+                put("]");
+            }
+        } else if (kind == 0 && n(depth + 1) < 2) {
             put("[");
             sum(depth + 1);
             put("]");

@@ -53,6 +53,11 @@ public final class TextsTest {
         lawFault("worth \u00ff", 6);
         lawFault("worth \0", 6);
         lawFault("wort", 0);
+        lawFault("worthz 1", 0);
+        lawFault("worth aza", 6);
+        lawFault("worth 1{", 7);
+        lawFault("worth 1`", 7);
+        lawFault("worth 1:", 7);
         lawFault("worthy 1", 0);
         lawFault("", 0);
         lawFault("    ", 4);
