@@ -781,7 +781,7 @@ public final class GiftDuel {
     /** A TEXT as read: its CLAUSES, and the SUMS and TESTS of these in postfix order in one row. */
     private static final class Text {
         /** Beyond what any SUM can be. */
-        static final int BROKEN = Integer.MIN_VALUE;
+        static final int BROKEN = -2000000000;
         static final int MOST_CLAUSES = 12;
         /** Each act comes from a TOKEN of its own, so there are no more than bytes. */
         static final int MOST_ACTS = 400;
@@ -1457,7 +1457,7 @@ public final class GiftDuel {
             }
             int heralds = hear(world, good);
             int needed = heralds - (heralds - 1) / 2;
-            int least = Integer.MAX_VALUE;
+            int least = NONE;
             int bribed = 0;
             for (int mask = 0; mask < 1 << heralds; mask++) {
                 int high = 0;
@@ -1467,7 +1467,7 @@ public final class GiftDuel {
                     high += taken || voices[i] >= wanted ? 1 : 0;
                     price += taken ? Math.max(0, wanted - voices[i]) * world.price(i) : 0;
                 }
-                if (high >= needed && price < least) {
+                if (high >= needed && (least == NONE || price < least)) {
                     least = price;
                     bribed = mask;
                 }

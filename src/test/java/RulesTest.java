@@ -97,8 +97,7 @@ public final class RulesTest {
             Check.holds("import " + imports.group(1), imports.group(1).equals("java.util.Arrays"));
         }
         Matcher calls = Pattern.compile("\\b(Math|Integer|Arrays|System|Long)\\.(\\w+)").matcher(bare);
-        Set<String> allowed = Set.of("max", "min", "bitCount", "numberOfTrailingZeros", "MIN_VALUE", "MAX_VALUE",
-                "fill", "arraycopy", "abs");
+        Set<String> allowed = Set.of("max", "min", "bitCount", "numberOfTrailingZeros", "fill", "arraycopy", "abs");
         while (calls.find()) {
             Check.holds(calls.group(), allowed.contains(calls.group(2)));
         }
