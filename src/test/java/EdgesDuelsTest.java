@@ -24,6 +24,8 @@ public final class EdgesDuelsTest {
         siegeOfNone();
         siegeWithout();
         siegeYears();
+        siegeOfWhatIsHeld();
+        noneToGive();
         siegeTenLowest();
         siegeBarredAside();
         siegeOfOwners();
@@ -423,6 +425,39 @@ public final class EdgesDuelsTest {
         siege("just enough: 8,018 + 9 * 99 - 9 * 990", x, 9, 10, 100, 1023);
         x.put(1, 0, 8019);
         siege("and one more", x, 9, -1, -1, -1);
+    }
+
+    /** What the other one holds COSTS, too, in each YEAR what it COSTS then. */
+    private static void siegeOfWhatIsHeld() {
+        GiftDuel x = Edges.hall(2);
+        x.good(0, 10, 1);
+        x.good(1, 10, 0);
+        x.put(1, 0, 30);
+        x.terms(0, 6);
+        Check.rule(x, "keeps 0; keeps 30 if good = 1 and to = 1 and year = 8; keeps 1 if good = 0 and to = 1 and year < 9");
+        siege("not in YEAR 7", x, 1, -1, -1, -1);
+        siege("in YEAR 8", x, 2, 1, 10, 1);
+        Check.rule(x, "keeps 0; keeps 31 if good = 1 and to = 1 and year = 9");
+        siege("not in YEAR 8", x, 2, -1, -1, -1);
+        siege("in YEAR 9 without", x, 3, 0, 0, 0);
+        due("RUINED then", x.ruin(1, 9), 9);
+    }
+
+    /** A GOOD that is not there is given by nobody, whatever the LAW tells of it. */
+    private static void noneToGive() {
+        GiftDuel x = Edges.hall(6);
+        Check.rule(x, "worth 500; keeps 99");
+        siege("without GOODS", x, 9, -1, -1, -1);
+        duel("without GOODS", x, 1, 0, -1, 0);
+        x.good(5, 1, 1);
+        siege("with another's", x, 9, -1, -1, -1);
+        duel("with another's", x, 1, 0, -1, 0);
+        for (int i = 0; i < 15; i++) {
+            x.good(5, 1, 1);
+        }
+        siege("with all another's", x, 9, -1, -1, -1);
+        due("of another", x.siege(5, 0, 9, 0), 1);
+        due("without", x.ruin(0, 99), -1);
     }
 
     /** "the 10 lowest numbers at most". */

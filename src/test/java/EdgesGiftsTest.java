@@ -19,7 +19,8 @@ public final class EdgesGiftsTest {
         allGoodsHeld();
         ruinedHasNoGrain();
         ruinedAlready();
-        lordZeroFirst();
+        howManyWereRuined();
+        fullHall();
         challengesOfTheRuined();
         graceAhead();
         lostAndWon();
@@ -312,7 +313,7 @@ public final class EdgesGiftsTest {
     }
 
     /** "how many were RUINED then": none, some, all of six. */
-    private static void lordZeroFirst() {
+    private static void howManyWereRuined() {
         GiftDuel x = new GiftDuel();
         due("without LORDS", x.await(), 0);
         for (int i = 0; i < 6; i++) {
@@ -325,6 +326,36 @@ public final class EdgesGiftsTest {
         }
         due("the others", x.await(), 3);
         due("nobody else", x.await(), 0);
+    }
+
+    /** Six LORDS, sixteen GOODS, all challenges there can be: a YEAR moves what it is to move alone. */
+    private static void fullHall() {
+        GiftDuel x = Edges.hall(6);
+        for (int i = 0; i < 16; i++) {
+            x.good((i + 5) % 6, 10 + i, 1);
+        }
+        x.give(0, 0);
+        x.give(1, 5);
+        x.give(2, 0);
+        x.give(5, 3);
+        int[] held = {0, 5, 0, 2, 3, 3};
+        x.await();
+        for (int i = 0; i < 16; i++) {
+            due("HOLDER of " + i, x.at(i, 0), i < 6 ? held[i] : (i + 5) % 6);
+            due("OWNER of " + i, x.at(i, 1), (i + 5) % 6);
+            due("BASE of " + i, x.at(i, 2), 10 + i);
+            due("KEEP of " + i, x.at(i, 3), 1);
+            due("GIVEN of " + i, x.at(i, 4), i < 3 || i == 5 ? 1 : 0);
+        }
+        int[] grain = {96, 98, 97, 97, 99, 97};
+        int[] won = {1, 1, 0, 0, 1, 0};
+        int[] lost = {1, 0, 0, 1, 0, 1};
+        for (int i = 0; i < 6; i++) {
+            due("GRAIN of " + i, x.of(i, 0), grain[i]);
+            due("lost by " + i, x.of(i, 4), lost[i]);
+            due("won by " + i, x.of(i, 5), won[i]);
+            due("none stands against " + i, x.owed(i, 0), 0);
+        }
     }
 
     /** "all challenges against and of that one stand no more then. Then challenges .. are LOST": those are not. */
@@ -457,6 +488,10 @@ public final class EdgesGiftsTest {
         Edges.asked("owed's LORD", 0, 3, x, (y, n) -> y.owed(n, 0));
         Edges.asked("owed's what", 0, 1, x, (y, n) -> y.owed(0, n));
         GiftDuel full = Edges.halls(6);
+        full.give(0, 1);
+        Edges.unchanged("none against 0, be there one against 1", full, 0, y -> y.owed(0, 0));
+        Edges.none("none against 0, be there one against 1", full, y -> y.owed(0, 1));
+        full.undo();
         for (int i = 0; i < 5; i++) {
             full.give(i, 5);
         }

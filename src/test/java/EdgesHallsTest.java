@@ -294,6 +294,9 @@ public final class EdgesHallsTest {
         way("more THIEVES", x, 0, 1, 70000, 5, 1, 0, 1);
         x.road(0, 1, 4, 3);
         way("fewer DAYS", x, 0, 1, 70000, 4, 1, 0, 1);
+        x.road(0, 1, 5, 3);
+        x.road(1, 0, 30, 3);
+        way("more DAYS", x, 0, 1, 70000, 4, 1, 0, 1);
         x.road(1, 0, 30, 2);
         way("fewer THIEVES", x, 0, 1, 80000, 30, 1, 0, 1);
     }
@@ -549,6 +552,14 @@ public final class EdgesHallsTest {
         found("three", x, 3, 512000, 0, 1, 0, 0, 0, 1);
         x.shelf(15, 0);
         found("the last one", x, 1, 1, 15, 0);
+        found("none by none", x, 0, 0);
+        x.shelf(15, 3);
+        x.shelf(0, 1);
+        x.shelf(1, 2);
+        found("two by one", x, 1, 0);
+        x.shelf(0, -1);
+        x.shelf(1, -1);
+        x.shelf(15, 0);
         x.shelf(0, 5);
         found("the first one and the last one", x, 2, 2, 0, 5, 15, 0);
     }
@@ -575,6 +586,15 @@ public final class EdgesHallsTest {
         Edges.unchanged("that one", x, 0, y -> y.beats(0, 1, 0));
         Edges.unchanged("nobody", x, 0, y -> y.beats(1, 0, -1));
         Edges.none("nobody's first", x, y -> y.beats(1, 0, 0));
+        GiftDuel z = Edges.hall(2);
+        z.good(1, 0, 0);
+        Edges.unchanged("LORD 0 holds nothing", z, 1, y -> y.beats(1, 0, -1));
+        Edges.unchanged("nobody", z, 0, y -> y.beats(0, 1, -1));
+        z.good(0, 0, 0);
+        Edges.unchanged("0 is no more than 0", z, 0, y -> y.beats(0, 1, -1) + y.beats(1, 0, -1));
+        z.good(0, 1, 0);
+        z.give(0, 0);
+        Edges.unchanged("of all it holds", z, 0, y -> y.beats(1, 0, -1));
     }
 
     /** "WORTH more .. than any that one holds": as much is no more; held, be it SECOND HAND; WORTH to one another. */
@@ -589,6 +609,13 @@ public final class EdgesHallsTest {
         due("that one", x.beats(0, 1, 0), 2);
         due("no second", x.beats(0, 1, 1), -1);
         due("not the other way", x.beats(1, 0, -1), 0);
+        due("of three LORDS", x.beats(2, 0, -1) * 10 + x.beats(2, 1, -1), 11);
+        GiftDuel z = Edges.hall(2);
+        z.good(1, 50, 0);
+        z.good(0, 40, 0);
+        z.good(1, 30, 0);
+        due("the first of its GOODS counts", z.beats(0, 1, -1), 0);
+        due("the first of its own, too", z.beats(1, 0, 0), 0);
         x.give(4, 1);
         due("more than SECOND HAND, too", x.beats(0, 1, -1), 0);
         due("by SECOND HAND", x.beats(1, 0, 0), 4);

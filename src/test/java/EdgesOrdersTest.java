@@ -14,6 +14,7 @@ public final class EdgesOrdersTest {
         waitBehind999CantBe();
         allIsAsItWas();
         whatCanBeUndoneIsAsItWas();
+        asGiveAndAwaitWould();
         refusalsWithinAreNotCounted();
         stoppedAt();
         tapeIsEmptyThen();
@@ -213,6 +214,31 @@ public final class EdgesOrdersTest {
         }
         due("YEAR", x.count(14), 4);
         due("the gift can't be undone", x.undo(), -3);
+    }
+
+    /** "To give a GOOD ..; to wait": all is as by give(), await(), HARVEST, LOST challenges and what can be undone. */
+    private static void asGiveAndAwaitWould() {
+        GiftDuel x = Edges.halls(3);
+        GiftDuel y = Edges.halls(3);
+        for (int i = 0; i < 3; i++) {
+            x.put(i, 1, 7 + i);
+            y.put(i, 1, 7 + i);
+        }
+        due("ORDERS", Check.orders(x, "give 0 to 1; wait; give 0 to 2; give 1 to 0; wait; wait"), 6);
+        y.give(0, 1);
+        y.await();
+        y.give(0, 2);
+        y.give(1, 0);
+        y.await();
+        y.await();
+        Check.holds("all alike", Edges.seen(x).equals(Edges.seen(y)));
+        int[] kinds = {1, 1, 0, 0, 1, 0};
+        for (int kind : kinds) {
+            due("undone", x.undo(), kind);
+            y.undo();
+            Check.holds("alike behind it", Edges.seen(x).equals(Edges.seen(y)));
+        }
+        due("no more", x.undo(), -3);
     }
 
     /** orders() is REFUSED once, by -3: what it ran is not counted on its own. */

@@ -2,7 +2,9 @@
 public final class EdgesTwoTest {
     public static void main(String[] args) {
         tapeOfFourHundred();
+        eachTextAnew();
         lettersAToZ();
+        wordsWhole();
         digits();
         singleOtherBytes();
         anyBlanksBetween();
@@ -13,6 +15,7 @@ public final class EdgesTwoTest {
         partsOfOrders();
         eightBrackets();
         faultIsTheFirstTokenThatCantGoOn();
+        faultWithinBrackets();
         faultAtTheEndIsTheLength();
         textsOfTheOtherLanguage();
         beyondAThousandMillion();
@@ -20,8 +23,10 @@ public final class EdgesTwoTest {
         dividedByZero();
         cutTowardsZero();
         orAndAskOnlyIfItMatters();
+        notTurns();
         lawsSixAtMost();
         noneInForceAtFirst();
+        namedWords();
         notNamedIsBelow();
         moodIsAlwaysNamed();
         clauseHolds();
@@ -74,6 +79,30 @@ public final class EdgesTwoTest {
         due("FAULT at the end of 400", x.fault(), 400);
     }
 
+    /** What one TEXT had (TOKENS, CLAUSES, PARTS, brackets) does not count for the next one. */
+    private static void eachTextAnew() {
+        GiftDuel x = Edges.hall(2);
+        x.good(0, 77, 0);
+        String parts = "wait if 1" + times("+1", 48) + "=49";
+        for (int i = 0; i < 40; i++) {
+            due("50 PARTS", Check.orders(x, parts), 1);
+            due("12 CLAUSES", Check.orders(x, times("wait;", 11) + "wait"), 12);
+            due("8 brackets", Check.orders(x, "wait if " + times("(", 8) + "1=1" + times(")", 8)), 1);
+            due("a 13th CLAUSE", Check.orders(x, times("wait;", 12) + "wait"), -6);
+        }
+        due("a LAW of 50 PARTS", Check.law(x, "worth 1" + times("+1", 49)), 0);
+        due("another", Check.law(x, "worth 2" + times("+2", 49)), 1);
+        due("YEARS", x.count(14), 40 * 14);
+        x.force(0);
+        due("the first tells", x.asks(0, 1, 0), 50);
+        x.force(1);
+        due("the second tells", x.asks(0, 1, 0), 100);
+        law(times(";", 400), 0);
+        law(times("(", 400), 0);
+        law("bars if " + times("(", 392), 16);
+        law("worth[" + times("0+", 49) + "0]" + times(";bars", 11) + times(" ", 238) + "!", 399);
+    }
+
     /** "longest rows of letters a .. z": what stands just beside a and z is no letter. */
     private static void lettersAToZ() {
         law("worthbase", 0);
@@ -89,6 +118,37 @@ public final class EdgesTwoTest {
         orders("waitwait", 0);
         orders("wait`", 4);
         orders("wai t", 0);
+    }
+
+    /** A word is known whole: neither what it begins with nor what it ends with is one, nor one with more behind it. */
+    private static void wordsWhole() {
+        for (String word : new String[] {"worth", "keeps", "bars"}) {
+            law(word.substring(1) + " 1", 0);
+            law(word.substring(0, word.length() - 1) + " 1", 0);
+            law(word + "z 1", 0);
+            law("a" + word + " 1", 0);
+        }
+        for (String word : new String[] {"good", "base", "keep", "given", "giver", "to", "year", "herald", "mood"}) {
+            law("worth " + word.substring(1), 6);
+            law("worth " + word.substring(0, word.length() - (word.startsWith("give") ? 2 : 1)), 6);
+            law("worth " + word + "z", 6);
+            law("worth " + word + " or", 7 + word.length());
+        }
+        for (String word : new String[] {"give 1 to 1", "wait"}) {
+            orders(word.substring(1), 0);
+            orders("z" + word, 0);
+        }
+        orders("wai", 0);
+        orders("giv 1 to 1", 0);
+        orders("wait time 2", 5);
+        orders("wait imes 2", 5);
+        orders("wait timess 2", 5);
+        orders("wait i 1=1", 5);
+        orders("give 1 too 1", 7);
+        orders("give 1 t 1", 7);
+        law("bars if 1=1 orr 1=1", 12);
+        law("bars if 1=1 an 1=1", 12);
+        law("bars if no 1=1", 8);
     }
 
     /** "of digits": what stands just beside 0 and 9 is no digit; digits and letters are TOKENS apart. */
@@ -272,6 +332,27 @@ public final class EdgesTwoTest {
         orders("wait if 1 = holder", 18);
     }
 
+    /** What could go on outside of brackets can't within them. */
+    private static void faultWithinBrackets() {
+        law("worth [;worth 1", 7);
+        law("worth [1;worth 1]", 8);
+        law("worth [ if 1=1", 8);
+        law("worth [1 if 1=1]", 9);
+        law("worth []", 7);
+        law("worth [+1]", 7);
+        law("bars if ()", 9);
+        law("bars if (;bars", 9);
+        law("bars if (1=1;bars)", 12);
+        law("bars if (and 1=1", 9);
+        law("bars if (1 and 1=1)", 11);
+        law("bars if [(1=1)]", 9);
+        law("bars if [not 1]=1", 9);
+        law("bars if [1=1] or 1=1", 10);
+        orders("give [ to 1", 7);
+        orders("give [1 to 1]", 8);
+        orders("wait if (times 2", 9);
+    }
+
     /** "(the end's: the TEXT's length)": blanks at the end belong to it; "blanks alone: FAULT at the end". */
     private static void faultAtTheEndIsTheLength() {
         law("", 0);
@@ -423,6 +504,23 @@ public final class EdgesTwoTest {
         so("1=1 or (1=1 and (1=1 or 1=1) and 1/0=1)", true);
     }
 
+    /** "not" PLAIN: what is so is not, over and over, in brackets, too. */
+    private static void notTurns() {
+        so("not 1=1", false);
+        so("not 1=2", true);
+        so("not not 1=1", true);
+        so("not not not 1=1", false);
+        so("not (not 1=1)", true);
+        so("not (not (not 1=1))", false);
+        so("not (not 1=1 and 1=1)", true);
+        so("not (not 1=1) and 1=1", true);
+        so("not (not 1=1) or 1=2", true);
+        so("1=2 or not (not 1=2)", false);
+        so("not 1=1 or 1=1", true);
+        so("not 1=2 and 1=2", false);
+        so("not 1=1 and 1=1", false);
+    }
+
     /** "LAWS, 6 at most". */
     private static void lawsSixAtMost() {
         GiftDuel x = Edges.halls(2);
@@ -454,6 +552,39 @@ public final class EdgesTwoTest {
         due("BARRED by LAW", x.asks(0, 1, 1), 1);
         x.force(-1);
         due("BASE again", x.asks(0, 1, 0), 77);
+    }
+
+    /** "Words": what each tells of a gift, of what is COST, of a HERALD; "in a YEAR". */
+    private static void namedWords() {
+        GiftDuel x = Edges.hall(4);
+        x.good(0, 1, 1);
+        x.good(1, 20, 7);
+        x.good(2, 99, 13);
+        x.give(2, 3);
+        x.give(2, 0);
+        x.terms(0, 41);
+        x.terms(2, 6);
+        x.herald(1);
+        x.herald(1);
+        String[] words = {"good", "base", "keep", "given", "giver+5", "to+5", "year", "herald+5", "mood"};
+        int[] gift = {2, 99, 13, 2, 5, 8, 41, 4, 6};
+        int[] kept = {2, 99, 13, 2, 4, 5, 41, 4, 6};
+        int[] heard = {2, 99, 13, 2, 4, 4, 41, 6, 6};
+        for (int i = 0; i < words.length; i++) {
+            x.image(0);
+            Check.rule(x, "worth " + words[i] + "; keeps " + words[i] + "; bars if " + words[i] + "=" + gift[i]);
+            due(words[i] + " of a gift", x.asks(2, 3, 0), gift[i]);
+            due(words[i] + " of a BARRED one", x.asks(2, 3, 1), 1);
+            due(words[i] + " of what it COSTS", x.at(2, 5), kept[i]);
+            due(words[i] + " of a HERALD", x.tells(1, 2), heard[i]);
+            x.back(0);
+        }
+        Check.rule(x, "keeps to * 10 + good");
+        due("all that 0 holds COSTS", x.of(0, 7), 0 + 2);
+        due("all that 1 holds COSTS", x.of(1, 7), 11);
+        x.await();
+        due("1 pays", x.of(1, 0), 89);
+        due("1 is RUINED when", x.ruin(1, 99), 42 + 9);
     }
 
     /** "what is not named is -1": herald of a gift; giver, herald of what it COSTS; giver, to of what a HERALD TELLS. */
