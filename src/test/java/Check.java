@@ -4,17 +4,34 @@ import java.nio.charset.StandardCharsets;
 final class Check {
     private static int wrong = 0;
     private static int asked = 0;
+    private static final boolean[] PROMISES = new boolean[41];
 
     private Check() {
     }
 
     static void due(String call, long got, long want) {
         asked++;
+        note(call);
         if (got != want) {
             wrong++;
             if (wrong <= 40) {
                 System.out.println(call + " answered " + got + ", due is " + want);
             }
+        }
+    }
+
+    /** A call told as "n: .." asks for promise n. */
+    private static void note(String call) {
+        int colon = call.indexOf(':');
+        if (colon > 0 && colon < 3 && call.substring(0, colon).chars().allMatch(Character::isDigit)) {
+            PROMISES[Math.min(40, Integer.parseInt(call.substring(0, colon)))] = true;
+        }
+    }
+
+    /** Each promise must have been asked for by now. */
+    static void allPromises() {
+        for (int n = 1; n <= 40; n++) {
+            holds("promise " + n + " has a test", PROMISES[n]);
         }
     }
 

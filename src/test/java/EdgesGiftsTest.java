@@ -22,6 +22,7 @@ public final class EdgesGiftsTest {
         howManyWereRuined();
         fullHall();
         challengesOfTheRuined();
+        challengesOfOthersStand();
         graceAhead();
         lostAndWon();
         yearPutBack();
@@ -375,6 +376,40 @@ public final class EdgesGiftsTest {
         due("not won by who is RUINED", x.of(1, 5), 0);
         due("not won against who is RUINED", x.of(0, 5), 0);
         due("not lost against who is RUINED", x.of(2, 4), 0);
+    }
+
+    /** Of six LORDS one is RUINED: challenges against it and of it stand no more, all others stand. */
+    private static void challengesOfOthersStand() {
+        for (int ruined = 0; ruined < 6; ruined++) {
+            GiftDuel x = Edges.halls(6);
+            x.terms(1, 3);
+            for (int i = 0; i < 6; i++) {
+                x.good(i, 20 + i, 0);
+            }
+            x.good(ruined, 1, 1);
+            x.put(ruined, 0, 0);
+            for (int i = 0; i < 6; i++) {
+                x.give(i, (i + 1) % 6);
+                x.give(6 + i, (i + 3) % 6);
+            }
+            int[][] ahead = debts(x);
+            due("one is RUINED", x.await(), 1);
+            int[][] behind = debts(x);
+            for (int i = 0; i < 36; i++) {
+                boolean gone = i / 6 == ruined || i % 6 == ruined;
+                due("against " + i / 6 + " from " + i % 6, behind[0][i], gone ? -1 : ahead[0][i]);
+                due("its YEAR", behind[1][i], gone ? -1 : ahead[1][i]);
+            }
+        }
+    }
+
+    private static int[][] debts(GiftDuel x) {
+        int[][] all = new int[2][36];
+        for (int i = 0; i < 36; i++) {
+            all[0][i] = x.debt(i / 6, i % 6, 0);
+            all[1][i] = x.debt(i / 6, i % 6, 1);
+        }
+        return all;
     }
 
     /** "challenges from a YEAR that is GRACE ahead of this one, or more, are LOST". */

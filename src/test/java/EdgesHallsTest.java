@@ -334,6 +334,7 @@ public final class EdgesHallsTest {
                 x.give(i, (i + n - 1) % n);
                 row[i] = i;
             }
+            due("of " + n + ", asked first of all", x.ring(n - 1), n - 1);
             ring("of " + n, x, row);
         }
     }

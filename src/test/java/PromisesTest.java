@@ -35,6 +35,7 @@ public final class PromisesTest {
         drawn();
         images();
         countAndStatus();
+        Check.allPromises();
         Check.finish("PromisesTest");
     }
 
