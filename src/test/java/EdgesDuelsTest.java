@@ -20,6 +20,7 @@ public final class EdgesDuelsTest {
         ruinOfNone();
         ruinBeyond999();
         ruinHarvestAtMost();
+        justNotRuinedFrom9999();
         ruinIfNothingMoreIsGiven();
         siegeOfNone();
         siegeWithout();
@@ -346,6 +347,31 @@ public final class EdgesDuelsTest {
         x.put(0, 0, 33);
         due("99 less 99", x.ruin(0, 99), 3);
         due("not RUINED by nothing left", x.ruin(0, 2), -1);
+    }
+
+    /** 9,999 and HARVEST 99 are 9,999; sixteen times 99 for six YEARS leave 1,089 with the seventh's HARVEST. */
+    private static void justNotRuinedFrom9999() {
+        for (int more = 0; more <= 1; more++) {
+            GiftDuel x = new GiftDuel();
+            x.lord(9999, 99);
+            x.lord(9999, 99);
+            for (int i = 0; i < 16; i++) {
+                x.good(1, 10, 0);
+            }
+            Check.rule(x, "keeps 0; keeps 99 if year < 7; keeps 99 if year = 7 and good < 11; keeps " + more
+                    + " if year = 7 and good = 11");
+            due("1,089 and " + more, x.ruin(1, 9), more == 1 ? 7 : -1);
+            GiftDuel y = new GiftDuel();
+            y.lord(9999, 99);
+            y.lord(9999, 99);
+            for (int i = 0; i < 16; i++) {
+                y.good(i < 10 ? 0 : 1, 10, 0);
+            }
+            Check.rule(y, "keeps 0; keeps 99 if year < 7; keeps 99 if year = 7 and good < 11; keeps " + more
+                    + " if year = 7 and good = 11");
+            siege("1,089 and " + more, y, 9, more == 1 ? 10 : -1, more == 1 ? 100 : -1, more == 1 ? 1023 : -1);
+            siege("1,089 and " + more, y, 6, -1, -1, -1);
+        }
     }
 
     /** "if nothing more is given": by GOODS it holds now, SECOND HAND, too; others' RUIN does not matter. */

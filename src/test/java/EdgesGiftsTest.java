@@ -206,6 +206,7 @@ public final class EdgesGiftsTest {
         x.good(1, 1, 0);
         due("a gift of 0", x.give(0, 1), 0);
         due("stands", x.debt(1, 0, 0), 0);
+        due("its LORD", x.owed(1, 1), 0);
         due("counted", x.count(5), 1);
         x.give(1, 0);
         due("0 does nothing", x.debt(1, 0, 0), 0);
@@ -532,6 +533,10 @@ public final class EdgesGiftsTest {
         }
         due("of all others", full.owed(5, 0), 5);
         due("the lowest of all", full.owed(5, 1), 0);
+        due("all that stand", full.count(5), 5);
+        GiftDuel last = Edges.halls(6);
+        last.give(5, 0);
+        due("of LORD 5", last.owed(0, 1), 5);
     }
 
     /** Promise 20: "16 are kept": the seventeenth takes the first's place, over and over. */

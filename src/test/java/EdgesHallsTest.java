@@ -536,6 +536,9 @@ public final class EdgesHallsTest {
         x.await();
         due("RUINED", x.of(0, 2), 1);
         found("still", x, 1, 1, 0, 1);
+        x.shelf(0, 0);
+        found("not to who is RUINED", x, 1, 0);
+        x.shelf(0, 1);
         found("not by who is RUINED", x, 2, 0);
         x.shelf(0, -1);
         x.shelf(1, 1);

@@ -26,6 +26,7 @@ public final class EdgesRestTest {
         drawnOfNone();
         drawnOfTheLatest();
         imagesKeepAllBut();
+        imagesKeepAllThereCanBe();
         imagesStay();
         imageOfAnEmptyHall();
         backUndoesNothing();
@@ -518,7 +519,7 @@ public final class EdgesRestTest {
         x.give(0, 2);
         Check.rule(x, "worth 44");
         x.shelf(1, 2);
-        String kept = Edges.seen(x).substring(Edges.seen(x).indexOf(';'));
+        String kept = behindCounts(x);
         x.image(1);
         x.lord(1, 1);
         x.good(3, 1, 1);
@@ -548,10 +549,60 @@ public final class EdgesRestTest {
             due("count(" + what + ")", x.count(what), counts[what]);
         }
         due("in FORCE, TERMS", x.count(13) * 10000 + x.count(14) * 100 + x.count(15) * 10 + x.count(16), 4038);
-        Check.holds("all is as it was", kept.equals(Edges.seen(x).substring(Edges.seen(x).indexOf(';'))));
+        Check.holds("all is as it was", kept.equals(behindCounts(x)));
         due("SHELVES", x.shelf(1, -1), 2);
         due("a LAW is the second again", Check.law(x, "bars"), 1);
         due("a LORD is the fourth again", x.lord(0, 0), 3);
+    }
+
+    private static String behindCounts(GiftDuel x) {
+        String seen = Edges.seen(x);
+        return seen.substring(seen.indexOf(';'));
+    }
+
+    /** An IMAGE of all there can be: six LORDS, sixteen GOODS, five HERALDS, twelve ROADS, six LAWS. */
+    private static void imagesKeepAllThereCanBe() {
+        GiftDuel x = Edges.hall(6);
+        for (int i = 0; i < 16; i++) {
+            x.good(i % 6, i, i);
+            x.shelf(i, (i + 1) % 6);
+        }
+        for (int i = 0; i < 5; i++) {
+            x.herald(1 + i);
+        }
+        for (int i = 0; i < 11; i++) {
+            x.road(0, 1, 1 + i, 9);
+        }
+        x.road(4, 5, 7, 2);
+        for (int i = 0; i < 6; i++) {
+            Check.law(x, "worth " + (80 + i) + " + herald");
+        }
+        x.force(5);
+        x.give(5, 4);
+        x.give(4, 3);
+        String kept = behindCounts(x);
+        x.image(0);
+        x.image(1);
+        x.undo();
+        x.undo();
+        x.force(0);
+        for (int i = 0; i < 20; i++) {
+            x.await();
+        }
+        for (int k = 0; k <= 1; k++) {
+            x.back(k);
+            Check.holds("all is kept", kept.equals(behindCounts(x)));
+            due("how many", x.count(0) * 10000 + x.count(1) * 100 + x.count(2) * 10 + x.count(4), 61656);
+            due("ROADS, challenges, in FORCE", x.count(3) * 100 + x.count(5) * 10 + x.count(13), 1225);
+            for (int i = 0; i < 16; i++) {
+                due("SHELF " + i, x.shelf(i, -1), (i + 1) % 6);
+            }
+            for (int i = 0; i < 6; i++) {
+                x.force(i);
+                due("LAW " + i, x.asks(0, 1, 0), 79 + i);
+            }
+            due("the last ROAD", x.way(5, 4, 0) + x.way(5, 4, 1), 80007);
+        }
     }
 
     /** "(IMAGES stay)": both, apart from one another; one that is kept anew is another then. */
@@ -668,8 +719,8 @@ public final class EdgesRestTest {
         int[] by = {-1, -1, -1, -1, -6, -6, -6, -2, -3, -3, -3, -1, -1, -1, -1, -1, -2};
         Edges.Call[] accepted = {x -> x.lord(0, 0), x -> x.put(0, 0, 0), x -> x.good(0, 0, 0), x -> x.terms(0, 0),
             x -> row(x, 9), x -> Check.law(x, "bars"), x -> Check.orders(x, "wait if 1=2"), x -> x.force(-1),
-            x -> x.give(0, 1), x -> x.await(), x -> x.await() + x.undo(), x -> x.herald(1), x -> x.road(0, 1, 1, 1),
-            x -> x.shelf(0, -1), x -> x.generation(0, 1), x -> x.image(1), x -> x.image(0) + x.back(0)};
+            x -> x.give(0, 1), x -> x.await(), x -> x.await() + x.give(9, 9) + x.undo(), x -> x.herald(1), x -> x.road(0, 1, 1, 1),
+            x -> x.shelf(0, -1), x -> x.generation(0, 1), x -> x.image(1), x -> x.image(0) + x.give(9, 9) + x.back(0)};
         for (int i = 0; i < names.length; i++) {
             GiftDuel x = Edges.halls(2);
             due(names[i] + " REFUSED", refused[i].on(x), by[i]);

@@ -97,6 +97,11 @@ public final class EdgesTwoTest {
         due("the first tells", x.asks(0, 1, 0), 50);
         x.force(1);
         due("the second tells", x.asks(0, 1, 0), 100);
+        Check.orders(x, "wait times 5 if grain 1 = 3");
+        due("no NUMBER of TIMES", Check.orders(x, "wait times year if grain 1 = 3"), -6);
+        due("its FAULT", x.fault(), 11);
+        due("no NUMBER of L", Check.orders(x, "wait times 5 if grain [ = 3"), -6);
+        due("its FAULT", x.fault(), 22);
         law(times(";", 400), 0);
         law(times("(", 400), 0);
         law("bars if " + times("(", 392), 16);
