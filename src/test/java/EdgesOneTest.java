@@ -390,7 +390,7 @@ public final class EdgesOneTest {
         due("law: -5, -6 of what is no LAW", f.law(), -5);
     }
 
-    /** Each call that can be REFUSED is either counted once or not at all. */
+    /** status() is of the latest call alone; what was counted stays counted. */
     private static void refusedIsForgottenByTheNext() {
         GiftDuel x = Edges.hall(1);
         x.lord(-1, 0);

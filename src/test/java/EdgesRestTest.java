@@ -27,6 +27,7 @@ public final class EdgesRestTest {
         drawnOfTheLatest();
         imagesKeepAllBut();
         imagesKeepAllThereCanBe();
+        lawsOfImages();
         imagesStay();
         imageOfAnEmptyHall();
         backUndoesNothing();
@@ -605,6 +606,31 @@ public final class EdgesRestTest {
         }
     }
 
+    /** LAWS read behind an IMAGE are not its own, even if they bear the same numbers. */
+    private static void lawsOfImages() {
+        GiftDuel x = Edges.halls(2);
+        for (int i = 0; i < 6; i++) {
+            x.image(0);
+            due("LAW " + i, Check.law(x, "worth 20 + " + i), i);
+            x.force(i);
+            x.image(1);
+            x.back(0);
+            due("LAWS", x.count(4), i);
+            due("another LAW " + i, Check.law(x, "worth 90"), i);
+            x.force(i);
+            due("the other one tells", x.asks(0, 1, 0), 90);
+            x.back(1);
+            due("BACK to the first one", x.asks(0, 1, 0), 20 + i);
+        }
+        due("a seventh", Check.law(x, "worth 90"), -5);
+        x.back(0);
+        due("the sixth again", Check.law(x, "worth 91"), 5);
+        for (int i = 0; i < 6; i++) {
+            x.force(i);
+            due("LAW " + i + " tells", x.asks(0, 1, 0), i < 5 ? 20 + i : 91);
+        }
+    }
+
     /** "(IMAGES stay)": both, apart from one another; one that is kept anew is another then. */
     private static void imagesStay() {
         GiftDuel x = Edges.hall(1);
@@ -719,7 +745,8 @@ public final class EdgesRestTest {
         int[] by = {-1, -1, -1, -1, -6, -6, -6, -2, -3, -3, -3, -1, -1, -1, -1, -1, -2};
         Edges.Call[] accepted = {x -> x.lord(0, 0), x -> x.put(0, 0, 0), x -> x.good(0, 0, 0), x -> x.terms(0, 0),
             x -> row(x, 9), x -> Check.law(x, "bars"), x -> Check.orders(x, "wait if 1=2"), x -> x.force(-1),
-            x -> x.give(0, 1), x -> x.await(), x -> x.await() + x.give(9, 9) + x.undo(), x -> x.herald(1), x -> x.road(0, 1, 1, 1),
+            x -> x.give(0, 1), x -> x.await(), x -> x.await() + x.give(9, 9) + x.undo(), x -> x.herald(1),
+            x -> x.road(0, 1, 1, 1),
             x -> x.shelf(0, -1), x -> x.generation(0, 1), x -> x.image(1), x -> x.image(0) + x.give(9, 9) + x.back(0)};
         for (int i = 0; i < names.length; i++) {
             GiftDuel x = Edges.halls(2);
